@@ -848,7 +848,7 @@ public final class FoucaultKeeper {
             for (int i = 0; i < steps; i++) {
                 state.direction = around(state.direction + (way < 0 ? -1 : 1));
                 int k = state.pinAt(state.direction);
-                if (k != NONE && state.stands[k] == 1 && state.height >= state.settings[REACH]) {
+                if (k >= 0 && state.stands[k] == 1 && state.height >= state.settings[REACH]) {
                     state.knockDown(k);
                     fallen++;
                     firstFallen = firstFallen == NONE ? k : firstFallen;

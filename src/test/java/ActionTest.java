@@ -11,6 +11,7 @@ public final class ActionTest {
         promise15(check);
         promise16(check);
         promise17(check);
+        promise17Full(check);
         promise18(check);
         promise19(check);
         promise19EachAction(check);
@@ -71,6 +72,11 @@ public final class ActionTest {
         check.due("backwards", back.swing(1), 2);
         check.due("backwards: the latest one", back.hit(0, 0), 10785);
         check.due("backwards: a fallen one is not hit again", back.swing(1), 1);
+        // The seventh turn ends right at 20, the eighth goes on by 2 only.
+        FoucaultKeeper near = Check.loaded("F+50240059999");
+        near.addPin(20);
+        near.addPin(22);
+        check.due("a pin just behind one at a turn's end", near.swing(8), 2);
         FoucaultKeeper all = Check.loaded("F+90060009999p000");
         all.set(4, 99);
         check.due("the start's own pin, behind a round: before", all.swing(500) + all.swing(219), 0);
@@ -97,6 +103,9 @@ public final class ActionTest {
         FoucaultKeeper drag = Check.loaded("F+90060999999");
         drag.swing(1);
         check.due("9999 and the greatest drag", drag.about(7), 9999 - 98 - 1);
+        FoucaultKeeper whole = Check.loaded("F+90060025000");
+        whole.swing(1);
+        check.due("5000 * 2 / 10000 is 1", whole.about(7), 4998);
         FoucaultKeeper drive = Check.loaded("F+90060009998");
         drive.set(4, 99);
         drive.swing(1);
@@ -240,6 +249,16 @@ public final class ActionTest {
         check.due("and the pin at the start", keeper.hit(2, 0), 0);
     }
 
+    private static void promise17Full(Check check) {
+        FoucaultKeeper keeper = Check.loaded("F+90060009999");
+        for (int place = 1; place <= 40; place++) {
+            keeper.addPin(place);
+        }
+        check.due("40 pins fall", keeper.swing(3), 40);
+        check.due("40 pins are raised", keeper.raise(), 40);
+        check.due("40 pins stand", keeper.about(10), 40);
+    }
+
     private static void promise18(Check check) {
         FoucaultKeeper keeper = new FoucaultKeeper();
         for (int i = 0; i < 20; i++) {
@@ -272,7 +291,7 @@ public final class ActionTest {
     }
 
     private static void promise19EachAction(Check check) {
-        FoucaultKeeper keeper = Check.loaded("F+90060009000p000");
+        FoucaultKeeper keeper = Check.loaded("F+89061009000p000");
         keeper.addPin(3);
         keeper.swing(1);
         keeper.read();

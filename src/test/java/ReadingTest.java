@@ -5,6 +5,7 @@ public final class ReadingTest {
         promise20(check);
         promise21(check);
         promise22(check);
+        promise22Later(check);
         promise22Ties(check);
         refused(check);
         check.end();
@@ -41,6 +42,10 @@ public final class ReadingTest {
         check.due("time at 1", keeper.time(0, 1), 600 * 60000 / (900 * 17));
         // 10799 * 60000 / 15300 = 42349.01..
         check.due("the longest time at 1", keeper.time(2, 3), 42349);
+        keeper.nudge(-4);
+        keeper.read();
+        // 10795 * 60000 / 15300 = 42333.3..
+        check.due("nearly the longest time at 1", keeper.time(2, 4), 42333);
         keeper.set(0, 90);
         check.due("time at 90, exactly", keeper.time(0, 1), 40);
         keeper.set(0, -50);
@@ -81,6 +86,25 @@ public final class ReadingTest {
         keeper.set(1, 60);
         check.due("half of it with 60 turns", keeper.latitudeFrom(0, 2), 30);
         check.changesNothing(keeper, "latitudeFrom", () -> keeper.latitudeFrom(0, 2));
+    }
+
+    private static void promise22Later(Check check) {
+        FoucaultKeeper late = Check.loaded("F+30060009999");
+        late.swing(300);
+        late.read();
+        late.swing(20);
+        late.read();
+        check.due("behind other turns", late.latitudeFrom(0, 1), 30);
+        FoucaultKeeper far = Check.loaded("F+90060009999");
+        far.read();
+        far.swing(1);
+        for (int i = 0; i < 8; i++) {
+            far.nudge(600);
+        }
+        far.nudge(591);
+        far.read();
+        // 5406 is 5391 on from 15, but 5379 back from 10785, where all from -90 to -70 come to.
+        check.due("the smaller way around, backwards", far.latitudeFrom(0, 1), -70);
     }
 
     private static void promise22Ties(Check check) {

@@ -94,16 +94,24 @@ public final class ScriptTest {
         }
         check.changesNothing(keeper, "simulate(5, 60)", () -> keeper.simulate(5, 60));
         check.refused(keeper, "undo behind simulate", IllegalStateException.class, keeper::undo);
-        for (long seed : new long[] {0, 1, -1, 77, Long.MAX_VALUE, Long.MIN_VALUE, 123456789012345678L}) {
-            for (int m : new int[] {1, 2, 7, 60}) {
-                check.due("simulate(" + seed + ", " + m + ")", keeper.simulate(seed, m), played(seed, m));
+        String[] texts = {"F+90060099000p001p002p010p011p100", "F-90900990040p179", "F+60100990500p001p002p003"};
+        long[] seeds = {0, 1, -1, 77, 5, 6, 7, 8, 9, Long.MAX_VALUE, Long.MIN_VALUE, 123456789012345678L};
+        for (String text : texts) {
+            FoucaultKeeper played = Check.loaded(text);
+            played.set(3, 230);
+            for (long seed : seeds) {
+                for (int m : new int[] {1, 2, 7, 30, 60}) {
+                    check.due(text + " simulate(" + seed + ", " + m + ")", played.simulate(seed, m),
+                            played(text, seed, m));
+                }
             }
         }
     }
 
     /** The same rounds with the public actions, on a keeper that is loaded with the same text. */
-    private static long played(long seed, int m) {
-        FoucaultKeeper keeper = Check.loaded("F+90060099000p001p002p010p011p100");
+    private static long played(String text, long seed, int m) {
+        FoucaultKeeper keeper = Check.loaded(text);
+        keeper.set(3, 230);
         long x = seed;
         long fallen = 0;
         for (int round = 0; round < m; round++) {

@@ -4,6 +4,7 @@ public final class SlotTest {
         Check check = new Check();
         promise31(check);
         promise32(check);
+        promise32Rows(check);
         refused(check);
         check.end();
     }
@@ -59,6 +60,32 @@ public final class SlotTest {
         keeper.save(1);
         check.due("save behind load", keeper.restore(1), 0);
         check.refused(keeper, "the other one", IllegalStateException.class, () -> keeper.restore(0));
+    }
+
+    /** The rows of readings and hits that a slot keeps are written over in between. */
+    private static void promise32Rows(Check check) {
+        FoucaultKeeper keeper = Check.loaded("F+50240059999");
+        for (int place = 1; place <= 30; place++) {
+            keeper.addPin(place);
+        }
+        keeper.save(1);
+        keeper.swing(9);
+        keeper.read();
+        keeper.read();
+        keeper.save(0);
+        String then = Check.look(keeper);
+        keeper.restore(1);
+        keeper.push(1);
+        keeper.nudge(20);
+        keeper.swing(3);
+        keeper.read();
+        keeper.nudge(20);
+        keeper.read();
+        check.due("restore(0)", keeper.restore(0), 9);
+        check.due("its rows", Check.look(keeper), then);
+        keeper.swing(2);
+        keeper.undo();
+        check.due("its rows behind undo", Check.look(keeper), then);
     }
 
     private static void refused(Check check) {
