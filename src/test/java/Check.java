@@ -43,17 +43,19 @@ final class Check {
     /** All that the keeper tells without being changed. */
     static String look(FoucaultKeeper keeper) {
         StringBuilder seen = new StringBuilder("about");
+        int[] numbers = new int[13];
         for (int what = 0; what <= 12; what++) {
-            seen.append(' ').append(keeper.about(what));
+            numbers[what] = keeper.about(what);
+            seen.append(' ').append(numbers[what]);
         }
-        for (int k = 0; k < keeper.about(9); k++) {
+        for (int k = 0; k < numbers[9]; k++) {
             seen.append(" pin ").append(keeper.pin(k, 0)).append('/').append(keeper.pin(k, 1));
         }
-        for (int j = 0; j < keeper.about(11); j++) {
+        for (int j = 0; j < numbers[11]; j++) {
             seen.append(" hit ").append(keeper.hit(j, 0)).append('/').append(keeper.hit(j, 1))
                     .append('/').append(keeper.hit(j, 2));
         }
-        for (int i = 0; i < keeper.about(12); i++) {
+        for (int i = 0; i < numbers[12]; i++) {
             seen.append(" reading ").append(keeper.reading(i, 0)).append('/').append(keeper.reading(i, 1))
                     .append('/').append(keeper.reading(i, 2));
         }
@@ -71,6 +73,10 @@ final class Check {
         write(keeper, text);
         keeper.load();
         return keeper;
+    }
+
+    int wrong() {
+        return wrong;
     }
 
     void tell(String fault) {
