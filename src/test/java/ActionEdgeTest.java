@@ -211,15 +211,16 @@ public final class ActionEdgeTest {
             }
         });
         all.holds(place, "Throws `IllegalStateException` if there are 40 pins", check -> {
-            FoucaultKeeper keeper = new FoucaultKeeper();
-            for (int k = 0; k < 40; k++) {
-                check.due("addPin(" + k + ")", keeper.addPin(k), k);
+            for (int at : new int[] {40, 39, 10799}) {
+                FoucaultKeeper keeper = new FoucaultKeeper();
+                for (int k = 0; k < 40; k++) {
+                    check.due("addPin(" + k + ")", keeper.addPin(k), k);
+                }
+                check.refused(keeper, "addPin(" + at + ") of 41", STATE, () -> keeper.addPin(at));
+                keeper.removePin(0);
+                check.due("addPin(41) of 40", keeper.addPin(41), 39);
+                check.due("addPin(0) of 41", Check.answer(() -> keeper.addPin(0)), "throws IllegalStateException");
             }
-            check.refused(keeper, "addPin(40) of 41", STATE, () -> keeper.addPin(40));
-            check.refused(keeper, "addPin(39) of 41", STATE, () -> keeper.addPin(39));
-            keeper.removePin(0);
-            check.due("addPin(40) of 40", keeper.addPin(40), 39);
-            check.refused(keeper, "addPin(0) of 41", STATE, () -> keeper.addPin(0));
         });
         all.holds(place, "or one is at this place", check -> {
             // The pins at 60 and 120 have fallen, the one at 140 stands.
@@ -238,7 +239,7 @@ public final class ActionEdgeTest {
 
     private static void removePin(Sentences all) {
         String place = "Promise 16";
-        all.holds(place, "Returns its place. (the first, the last and the only one, standing or fallen)", check -> {
+        all.holds(place, "Returns its place. [the first, the last and the only one, standing or fallen]", check -> {
             FoucaultKeeper keeper = Check.loaded("F+90060009000p000p001p179");
             keeper.swing(4);
             check.due("the last one", keeper.removePin(2), 10740);
@@ -249,7 +250,7 @@ public final class ActionEdgeTest {
             check.due("undo brings it back", keeper.undo(), 3);
             check.due("as it was", keeper.pin(0, 1), 0);
         });
-        all.holds(place, "(one of 40 pins, the last number)", check -> {
+        all.holds(place, "Removes a pin. [one of 40]", check -> {
             FoucaultKeeper keeper = new FoucaultKeeper();
             for (int k = 0; k < 40; k++) {
                 keeper.addPin(k);
@@ -344,7 +345,7 @@ public final class ActionEdgeTest {
             FoucaultKeeper loaded = Check.loaded("F+50240055000");
             check.refused(loaded, "undo behind load", STATE, loaded::undo);
         });
-        all.holds(place, "Takes back the last action that is remembered. (of each kind, one after the other)", check -> {
+        all.holds(place, "Takes back the last action that is remembered. [of each kind, one after the other]", check -> {
             FoucaultKeeper keeper = Check.loaded("F+89061009000p000p001");
             Check.Call[] kinds = {
                 () -> keeper.swing(5), () -> keeper.set(1, 900), () -> keeper.push(9), () -> keeper.nudge(-9),

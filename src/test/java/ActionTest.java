@@ -9,6 +9,7 @@ public final class ActionTest {
         promise13(check);
         promise14(check);
         promise15(check);
+        promise15Full(check);
         promise16(check);
         promise17(check);
         promise17Full(check);
@@ -200,7 +201,11 @@ public final class ActionTest {
         keeper.swing(1);
         check.due("it has fallen", keeper.pin(2, 1), 0);
         check.refused(keeper, "addPin where one has fallen", IllegalStateException.class, () -> keeper.addPin(2));
-        for (int k = 3; k < 40; k++) {
+    }
+
+    private static void promise15Full(Check check) {
+        FoucaultKeeper keeper = new FoucaultKeeper();
+        for (int k = 0; k < 40; k++) {
             check.due("pin " + k, keeper.addPin(100 + k), k);
         }
         check.refused(keeper, "addPin of 41", IllegalStateException.class, () -> keeper.addPin(99));
@@ -225,11 +230,12 @@ public final class ActionTest {
         check.due("the new 37", keeper.pin(37, 0), 4000);
         check.due("pins", keeper.about(9), 38);
         check.due("removePin(37)", keeper.removePin(37), 4000);
-        for (int wrong : new int[] {-1, 37, 40, Integer.MAX_VALUE, Integer.MIN_VALUE}) {
-            check.refused(keeper, "removePin(" + wrong + ")", IndexOutOfBoundsException.class,
-                    () -> keeper.removePin(wrong));
-        }
+        check.refused(keeper, "removePin(37)", IndexOutOfBoundsException.class, () -> keeper.removePin(37));
         check.due("its place is free again", keeper.addPin(600), 37);
+        FoucaultKeeper two = Check.loaded("F+50240055000p001p002");
+        for (int wrong : new int[] {-1, 2, 40, Integer.MAX_VALUE, Integer.MIN_VALUE}) {
+            check.refused(two, "removePin(" + wrong + ")", IndexOutOfBoundsException.class, () -> two.removePin(wrong));
+        }
     }
 
     private static void promise17(Check check) {
@@ -299,19 +305,21 @@ public final class ActionTest {
         Check.Call[] actions = {
             () -> keeper.swing(3), () -> keeper.set(1, 70), () -> keeper.push(3), () -> keeper.nudge(-3),
             () -> keeper.addPin(17), () -> keeper.removePin(0), () -> keeper.raise(), () -> keeper.read(),
-            () -> keeper.nudge(0), () -> keeper.set(0, 90)
+            () -> keeper.nudge(0)
         };
         String[] before = new String[actions.length];
         for (int i = 0; i < actions.length; i++) {
             before[i] = Check.look(keeper);
             actions[i].answer();
         }
-        check.refused(keeper, "swing(0)", IllegalArgumentException.class, () -> keeper.swing(0));
-        check.refused(keeper, "set(5, 0)", IllegalArgumentException.class, () -> keeper.set(5, 0));
-        check.refused(keeper, "push(0)", IllegalArgumentException.class, () -> keeper.push(0));
-        check.refused(keeper, "nudge(999)", IllegalArgumentException.class, () -> keeper.nudge(999));
-        check.refused(keeper, "addPin(17)", IllegalStateException.class, () -> keeper.addPin(17));
-        check.refused(keeper, "removePin(9)", IndexOutOfBoundsException.class, () -> keeper.removePin(9));
+        // Calls that are refused are not remembered.
+        Check.Call[] refused = {
+            () -> keeper.swing(0), () -> keeper.set(5, 0), () -> keeper.push(0), () -> keeper.nudge(999),
+            () -> keeper.addPin(17), () -> keeper.removePin(9)
+        };
+        for (Check.Call call : refused) {
+            check.due("it is refused", Check.answer(call).startsWith("throws") ? 1 : 0, 1);
+        }
         for (int i = actions.length - 1; i >= 0; i--) {
             check.due("undo of action " + i, keeper.undo(), remembered + i);
             check.due("the state behind undo of action " + i, Check.look(keeper), before[i]);

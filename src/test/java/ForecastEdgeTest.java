@@ -57,13 +57,13 @@ public final class ForecastEdgeTest {
             check.due("none stands then", forty.ahead(3, 3), 0);
             check.due("all 40 stand", forty.about(10), 40);
         });
-        all.holds(place, "0: the direction (around at 10799 and 0)", check -> {
+        all.holds(place, "0: the direction [around at 10799 and 0]", check -> {
             check.due("back from 0", Check.loaded("F-90900009000").ahead(1, 0), 10799);
             FoucaultKeeper end = Check.loaded("F+90900009000");
             end.nudge(-1);
             check.due("on from 10799", end.ahead(1, 0), 0);
         });
-        all.holds(place, "1: the height (0, and as high as can be)", check -> {
+        all.holds(place, "1: the height [0, and as high as can be]", check -> {
             FoucaultKeeper low = Check.loaded("F+00060000003");
             check.due("1 left", low.ahead(2, 1), 1);
             check.due("0", low.ahead(3, 1), 0);
@@ -108,7 +108,7 @@ public final class ForecastEdgeTest {
                     }
                     Known.answers(check, "fallsAfter(2)", 1, k -> k.fallsAfter(2));
                 });
-        all.holds(place, "NONE if there is none. (the height is too low when it comes there)", check -> {
+        all.holds(place, "NONE if there is none. [the height is too low when it comes there]", check -> {
             FoucaultKeeper keeper = Check.loaded("F+90900004009");
             keeper.addPin(10);
             check.due("just the reach", keeper.fallsAfter(0), 10);
@@ -137,7 +137,7 @@ public final class ForecastEdgeTest {
 
     private static void lowAfter(Sentences all) {
         String place = "Promise 25";
-        all.holds(place, "Returns the smallest number of turns, 0 to 3000, after which .. the height is at most this one", check -> {
+        all.holds(place, "Returns the smallest number of turns, 0 to 3000, after which [..] the height is at most this one", check -> {
             // {the height now, the height asked for, turns}
             int[][] due = {{3000, 3000, 0}, {3000, 3001, 0}, {3000, 9999, 0}, {3000, 2999, 1}, {3000, 0, 3000},
                 {3001, 0, NONE}, {3001, 1, 3000}, {9999, 6999, 3000}, {9999, 6998, NONE}, {9999, 9999, 0}, {0, 0, 0},
@@ -149,14 +149,14 @@ public final class ForecastEdgeTest {
             Known.answers(check, "lowAfter(8891)", 0, k -> k.lowAfter(8891));
             Known.answers(check, "lowAfter(8890)", 1, k -> k.lowAfter(8890));
         });
-        all.holds(place, "NONE if there is none. (the drive keeps it up)", check -> {
+        all.holds(place, "NONE if there is none. [the drive keeps it up]", check -> {
             FoucaultKeeper keeper = Check.loaded("F+00060003000");
             keeper.set(4, 1);
             check.due("below it", keeper.lowAfter(2999), NONE);
             check.due("at it", keeper.lowAfter(3000), 0);
             check.due("0", keeper.lowAfter(0), NONE);
         });
-        all.holds(place, "(a height that is low behind the hits of a turn, but not behind the turn)", check -> {
+        all.holds(place, "after which [and not within which] (without other changes) the height is at most this one", check -> {
             FoucaultKeeper keeper = Check.loaded("F+90060005000");
             keeper.set(4, 99);
             keeper.addPin(5);
@@ -253,7 +253,7 @@ public final class ForecastEdgeTest {
             check.due("200 turns from 60 come to 260", keeper.freeStart(200), 300);
             check.due("199 turns from 60 do not", keeper.freeStart(199), 60);
         });
-        all.holds(place, "(the last one, 10740)", check -> {
+        all.holds(place, "the smallest direction that is a multiple of 60 [the last one, 10740]", check -> {
             // 200 turns of 15 minutes: 3000. Each start has a pin in them but 10740, from which they end at 2940.
             FoucaultKeeper keeper = Check.loaded("F+90060009999p050p100p150p179");
             check.due("only 10740 is left", keeper.freeStart(200), 10740);
@@ -283,7 +283,7 @@ public final class ForecastEdgeTest {
             check.due("a pin at 0, backwards", Check.loaded("F-90060009999p000").freeStart(200), 0);
             check.due("a pin at 0, standing still", Check.loaded("F+00060009999p000").freeStart(200), 0);
         });
-        all.holds(place, "(from 0 back over 10799, and from 10740 on over it)", check -> {
+        all.holds(place, "from which [around at 0 and 10799] (with the present rest and height) no pin that stands would fall", check -> {
             FoucaultKeeper back = Check.loaded("F-90900009999");
             back.addPin(10799);
             check.due("10799 is in the way of 0", back.freeStart(1), 60);
@@ -312,7 +312,7 @@ public final class ForecastEdgeTest {
             check.due("it is above it again", height.freeStart(11), 60);
             check.due("the direction is another one", height.about(5), 1);
         });
-        all.holds(place, "(a height of 0, and one below the reach)", check -> {
+        all.holds(place, "(with the present rest and height) [a height of 0, and one below the reach]", check -> {
             FoucaultKeeper still = Check.loaded("F+90060000000p001");
             still.set(3, 1);
             check.due("a height of 0", still.freeStart(200), 0);
@@ -350,10 +350,11 @@ public final class ForecastEdgeTest {
                 check.due("a pin at " + pair[0], keeper.next(), pair[1]);
             }
             keeper.swing(1);
+            keeper.nudge(-1);
             check.due("one that has fallen is none", keeper.next(), 3);
             Known.answers(check, "next()", 2, FoucaultKeeper::next);
         });
-        all.holds(place, "the first pin (of several in one turn)", check -> {
+        all.holds(place, "the first pin [of several in one turn]", check -> {
             for (int sign : new int[] {1, -1}) {
                 FoucaultKeeper keeper = Check.loaded("F+90060009999");
                 keeper.set(0, 90 * sign);

@@ -1,8 +1,8 @@
 import java.util.Random;
 
-/** All promises: runs of 512 calls, each answer compared with the model's. */
+/** All promises: runs of 512 calls, as many as an object is for, each answer compared with the model's. */
 public final class RandomRunsTest {
-    private static final int RUNS = 150;
+    private static final int RUNS = 400;
     private static final int CALLS = 512;
     private static final int[] EDGES = {Integer.MIN_VALUE, -601, -91, -1, 0, 1, 2, 12, 20, 40, 60, 90, 200, 500, 501,
         600, 9999, 10799, 10800, Integer.MAX_VALUE};
@@ -13,6 +13,7 @@ public final class RandomRunsTest {
     private final int run;
     private final FoucaultKeeper keeper = new FoucaultKeeper();
     private final Model model = new Model();
+    private int calls = 0;
 
     private RandomRunsTest(int run) {
         this.run = run;
@@ -29,8 +30,9 @@ public final class RandomRunsTest {
 
     private void play() {
         boolean loads = random.nextInt(4) > 0;
-        for (int call = 0; call < CALLS; call++) {
-            if (loads && (call == 0 || random.nextInt(200) == 0)) {
+        int looks = random.nextInt(4);
+        while (calls < CALLS) {
+            if (loads && (calls == 0 || random.nextInt(100) == 0)) {
                 write();
                 same("load()", keeper::load, model::load);
             }
@@ -39,12 +41,17 @@ public final class RandomRunsTest {
             } else {
                 ask();
             }
-            look();
+            for (int i = 0; i < looks; i++) {
+                look();
+            }
         }
     }
 
     private void same(String call, Check.Call got, Check.Call due) {
-        check.due("run " + run + ": " + call, Check.answer(got), Check.answer(due));
+        if (calls < CALLS) {
+            calls++;
+            check.due("run " + run + ": " + call, Check.answer(got), Check.answer(due));
+        }
     }
 
     /** A number from low to high, or now and then one beside them or any edge. */
@@ -78,8 +85,11 @@ public final class RandomRunsTest {
         for (int i = 0; i < text.length(); i++) {
             int c = text.charAt(i);
             same("append(" + c + ")", () -> keeper.append(c), () -> model.append(c));
-            same("errorPosition()", keeper::errorPosition, model::errorPosition);
+            if (random.nextInt(5) == 0) {
+                same("errorPosition()", keeper::errorPosition, model::errorPosition);
+            }
         }
+        same("errorPosition()", keeper::errorPosition, model::errorPosition);
     }
 
     private void act() {
@@ -212,18 +222,27 @@ public final class RandomRunsTest {
     }
 
     private void look() {
-        for (int what = -1; what <= 13; what++) {
-            int w = what;
-            same("about(" + w + ")", () -> keeper.about(w), () -> model.about(w));
-        }
         int k = number(0, Math.max(0, model.about(9) - 1));
         int j = number(0, 19);
         int i = number(0, Math.max(0, model.about(12) - 1));
         int what = number(0, 2);
-        int latitude = number(-90, 90);
-        same("pin(" + k + ", " + what + ")", () -> keeper.pin(k, what), () -> model.pin(k, what));
-        same("hit(" + j + ", " + what + ")", () -> keeper.hit(j, what), () -> model.hit(j, what));
-        same("reading(" + i + ", " + what + ")", () -> keeper.reading(i, what), () -> model.reading(i, what));
-        same("sine(" + latitude + ")", () -> keeper.sine(latitude), () -> model.sine(latitude));
+        switch (random.nextInt(8)) {
+            case 0:
+                same("pin(" + k + ", " + what + ")", () -> keeper.pin(k, what), () -> model.pin(k, what));
+                break;
+            case 1:
+                same("hit(" + j + ", " + what + ")", () -> keeper.hit(j, what), () -> model.hit(j, what));
+                break;
+            case 2:
+                same("reading(" + i + ", " + what + ")", () -> keeper.reading(i, what), () -> model.reading(i, what));
+                break;
+            case 3:
+                int latitude = number(-90, 90);
+                same("sine(" + latitude + ")", () -> keeper.sine(latitude), () -> model.sine(latitude));
+                break;
+            default:
+                int w = number(0, 12);
+                same("about(" + w + ")", () -> keeper.about(w), () -> model.about(w));
+        }
     }
 }

@@ -23,6 +23,7 @@ public final class ReadingEdgeTest {
         keeper.set(4, 99);
         keeper.set(0, 0);
         keeper.set(1, turnsInHour);
+        keeper.swing(7);
         go(keeper, start);
         keeper.read();
         for (int left = turns; left > 0; left -= 500) {
@@ -53,7 +54,7 @@ public final class ReadingEdgeTest {
             }
             Known.answers(check, "move(0, 1)", 60, k -> k.move(0, 1));
         });
-        all.holds(place, "`j`: reading, later than i (the first and the last of 20)", check -> {
+        all.holds(place, "`j`: reading, later than i [the first and the last of 20]", check -> {
             FoucaultKeeper keeper = new FoucaultKeeper();
             for (int i = 0; i < 20; i++) {
                 keeper.read();
@@ -71,7 +72,7 @@ public final class ReadingEdgeTest {
         all.holds(place, "the move * 60000 / (900 * its sine), in sixtieths of an hour, rounded down once", check -> {
             // {latitude, minutes, sixtieths}: at 90 there are 15 minutes in one, at 1 there are 0.255.
             int[][] due = {{90, 0, 0}, {90, 14, 0}, {90, 15, 1}, {90, 29, 1}, {90, 30, 2}, {90, 10799, 719}, {1, 1, 3},
-                {1, 10799, 42349}, {1, 51, 200}, {1, 50, 196}, {50, 600, 52}, {50, 10799, 939}};
+                {1, 10799, 42349}, {1, 10795, 42333}, {1, 51, 200}, {1, 50, 196}, {50, 600, 52}, {50, 10799, 939}};
             times(check, due);
         });
         all.holds(place, "for one below 0 the same with 10800 minus the move", check -> {
@@ -116,7 +117,7 @@ public final class ReadingEdgeTest {
 
     private static void latitudeFrom(Sentences all) {
         String place = "Promise 22";
-        all.holds(place, "gone on by 900 * sine * t / (1000 * the turns in an hour ..), rounded down once (also if it is negative)",
+        all.holds(place, "gone on by 900 * sine * t / (1000 * the turns in an hour [..]), rounded down once (also if it is negative)",
                 check -> {
                     // {turns, minutes, latitude} with 900 turns in an hour: sine * turns / 1000 minutes
                     int[][] due = {{1, 0, 0}, {1, 1, 90}, {1, 2, 90}, {1, -1, -1}, {1, -2, -1}, {2, 1, 30}, {2, 2, 90},
@@ -126,7 +127,7 @@ public final class ReadingEdgeTest {
                         check.due(row[1] + " minutes in " + row[0] + " turns", keeper.latitudeFrom(0, 1), row[2]);
                     }
                 });
-        all.holds(place, "where t is the difference of their clocks (0, and 250000)", check -> {
+        all.holds(place, "where t is the difference of their clocks [0, and 250000]", check -> {
             for (int minutes : new int[] {0, 1, -1, 600, 5400}) {
                 check.due(minutes + " minutes in no turn", apart(60, 5, 0, minutes).latitudeFrom(0, 1), 0);
             }
@@ -152,12 +153,13 @@ public final class ReadingEdgeTest {
             check.due("with 900", keeper.latitudeFrom(0, 1), 90);
             Known.answers(check, "latitudeFrom(0, 1)", 90, k -> k.latitudeFrom(0, 1));
         });
-        all.holds(place, "is that of i gone on (around at 10799 and 0)", check -> {
+        all.holds(place, "is that of i gone on [around at 10799 and 0]", check -> {
             check.due("from 10790 to 5", apart(60, 10790, 1, 15).latitudeFrom(0, 1), 90);
             check.due("from 5 to 10790", apart(60, 5, 1, -15).latitudeFrom(0, 1), -70);
             check.due("from 10799 to 0", apart(900, 10799, 1, 1).latitudeFrom(0, 1), 90);
             check.due("from 0 to 10799", apart(900, 0, 1, -1).latitudeFrom(0, 1), -1);
             check.due("once around", apart(60, 0, 720, 0).latitudeFrom(0, 1), 0);
+            check.due("twice around, and 900", apart(60, 0, 1500, 900).latitudeFrom(0, 1), 90);
         });
     }
 
@@ -182,6 +184,7 @@ public final class ReadingEdgeTest {
             // From 10790 it comes to 1490 and 9290; 10799 is 9 on from the start, and 4 is 14 on.
             check.due("9 on from 10790", apart(60, 10790, 100, 9).latitudeFrom(0, 1), 0);
             check.due("14 on from 10790", apart(60, 10790, 100, 14).latitudeFrom(0, 1), 1);
+            check.due("1 back from 0", apart(60, 0, 100, -1).latitudeFrom(0, 1), 0);
         });
     }
 

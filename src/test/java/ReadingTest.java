@@ -162,13 +162,18 @@ public final class ReadingTest {
         check.due("the positive one", half.latitudeFrom(1, 2), 0);
     }
 
-    private static void refused(Check check) {
+    private static FoucaultKeeper twoReadings() {
         FoucaultKeeper keeper = new FoucaultKeeper();
         keeper.read();
         keeper.read();
         keeper.set(0, 0);
+        return keeper;
+    }
+
+    private static void refused(Check check) {
         int[][] none = {{-1, 0}, {0, -1}, {0, 2}, {2, 0}, {2, 3}, {2, 2}, {-1, -1}, {5, -7}};
         for (int[] pair : none) {
+            FoucaultKeeper keeper = twoReadings();
             String told = "(" + pair[0] + ", " + pair[1] + ")";
             check.refused(keeper, "move" + told, IndexOutOfBoundsException.class, () -> keeper.move(pair[0], pair[1]));
             check.refused(keeper, "time" + told, IndexOutOfBoundsException.class, () -> keeper.time(pair[0], pair[1]));
@@ -176,6 +181,7 @@ public final class ReadingTest {
                     () -> keeper.latitudeFrom(pair[0], pair[1]));
         }
         for (int[] pair : new int[][] {{0, 0}, {1, 0}, {1, 1}}) {
+            FoucaultKeeper keeper = twoReadings();
             String told = "(" + pair[0] + ", " + pair[1] + ")";
             check.refused(keeper, "move" + told, IllegalArgumentException.class, () -> keeper.move(pair[0], pair[1]));
             check.refused(keeper, "time" + told, IllegalArgumentException.class, () -> keeper.time(pair[0], pair[1]));

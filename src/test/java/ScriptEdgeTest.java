@@ -338,12 +338,13 @@ public final class ScriptEdgeTest {
             top.addPin(16);
             check.due("not above 9999", top.simulate(seedFor(1024 + 9), 1), 30);
         });
-        all.holds(place, "(nothing else is done for any other r)", check -> {
+        all.holds(place, "If r % 8 is 0 [..] if it is 1 [and nothing for any other]", check -> {
             for (int r = 2; r < 8; r++) {
                 FoucaultKeeper keeper = new FoucaultKeeper();
-                keeper.set(3, 5001);
-                keeper.addPin(3);
                 keeper.swing(1);
+                // The height is 4997: a push by 1 would be enough for the pin.
+                keeper.set(3, 4998);
+                keeper.addPin(3);
                 check.due("r " + r, keeper.simulate(seedFor(r), 1), 5);
             }
         });

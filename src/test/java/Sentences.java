@@ -1,6 +1,7 @@
 /**
- * Sentences of the document that name a boundary case, each with a test of its own: a broken one is
- * told with the place where it stands and its words.
+ * Sentences of the document that name a boundary case, each with a test of its own. What stands in
+ * square brackets is left out, or says which case of the sentence is meant. A broken sentence is
+ * told with the place where it stands.
  */
 final class Sentences {
     interface Test {

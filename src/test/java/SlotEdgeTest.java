@@ -28,7 +28,7 @@ public final class SlotEdgeTest {
                 Known.refuses(check, "save(" + slot + ")", INDEX, k -> k.save(slot));
             }
         });
-        all.holds(place, "Stores the present state in a save slot. (over the one that was there)", check -> {
+        all.holds(place, "Stores the present state in a save slot. [over the one that was there]", check -> {
             FoucaultKeeper keeper = new FoucaultKeeper();
             keeper.save(0);
             keeper.swing(3);
@@ -39,24 +39,49 @@ public final class SlotEdgeTest {
             check.due("restore(0)", keeper.restore(0), 3);
             check.due("the later state", Check.look(keeper), later);
         });
-        all.holds(place, "Stores the present state (40 pins, 20 hits, 20 readings; and without any)", check -> {
-            FoucaultKeeper keeper = Check.loaded("F+90060009999");
-            String empty = Check.look(keeper);
+        all.holds(place, "Stores the present state [40 pins, 20 hits, 20 readings; and without any]", check -> {
+            FoucaultKeeper keeper = new FoucaultKeeper();
+            keeper.set(0, 90);
+            keeper.set(1, 60);
+            keeper.push(4999);
             keeper.save(0);
-            for (int at = 1; at <= 40; at++) {
-                keeper.addPin(at);
-            }
-            keeper.swing(2);
-            for (int i = 0; i < 20; i++) {
-                keeper.read();
-            }
-            String full = Check.look(keeper);
+            fill(keeper, 1);
             keeper.save(1);
-            keeper.restore(0);
-            check.due("the empty one", Check.look(keeper), empty);
-            keeper.restore(1);
-            check.due("the full one", Check.look(keeper), full);
+            check.due("restore(0)", keeper.restore(0), 0);
+            for (int what = 9; what <= 12; what++) {
+                check.due("the empty one: about(" + what + ")", keeper.about(what), 0);
+            }
+            fill(keeper, 2);
+            keeper.swing(4);
+            check.due("restore(1)", keeper.restore(1), 2);
+            isFilled(check, keeper);
         });
+    }
+
+    /** 40 pins, so many minutes apart; those up to 30 are hit. */
+    private static void fill(FoucaultKeeper keeper, int apart) {
+        for (int k = 1; k <= 40; k++) {
+            keeper.addPin(apart * k);
+        }
+        keeper.swing(2);
+        for (int i = 0; i < 20; i++) {
+            keeper.nudge(apart);
+            keeper.read();
+        }
+    }
+
+    private static void isFilled(Check check, FoucaultKeeper keeper) {
+        check.due("pins", keeper.about(9), 40);
+        for (int k = 0; k < 40; k++) {
+            check.due("the place of pin " + k, keeper.pin(k, 0), k + 1);
+            check.due("whether pin " + k + " stands", keeper.pin(k, 1), k < 30 ? 0 : 1);
+        }
+        check.due("hits", keeper.about(11), 20);
+        check.due("readings", keeper.about(12), 20);
+        for (int i = 0; i < 20; i++) {
+            check.due("hit " + i, keeper.hit(i, 0), 30 - i);
+            check.due("reading " + i, keeper.reading(i, 1), 31 + i);
+        }
     }
 
     private static void restore(Sentences all) {

@@ -89,11 +89,12 @@ public final class SlotTest {
     }
 
     private static void refused(Check check) {
-        FoucaultKeeper keeper = used();
         for (int slot : new int[] {-1, 2, Integer.MAX_VALUE, Integer.MIN_VALUE}) {
+            FoucaultKeeper keeper = used();
             check.refused(keeper, "save " + slot, IndexOutOfBoundsException.class, () -> keeper.save(slot));
             check.refused(keeper, "restore " + slot, IndexOutOfBoundsException.class, () -> keeper.restore(slot));
         }
+        FoucaultKeeper keeper = used();
         check.refused(keeper, "restore(0) of nothing", IllegalStateException.class, () -> keeper.restore(0));
         check.due("the remembered states are kept", keeper.undo(), 3);
     }

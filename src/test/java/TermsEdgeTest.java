@@ -224,6 +224,13 @@ public final class TermsEdgeTest {
         String place = "A turn";
         all.holds(place, "Each time the direction has gone on or back, a pin that stands there falls", check -> {
             for (int sign : new int[] {1, -1}) {
+                int[][] alone = {{0, 0}, {1, 1}, {15, 1}, {16, 0}};
+                for (int[] pair : alone) {
+                    FoucaultKeeper one = Check.loaded("F+90060009000");
+                    one.set(0, 90 * sign);
+                    one.addPin((10800 + sign * pair[0]) % 10800);
+                    check.due("a pin alone, " + sign * pair[0] + " away", one.swing(1), pair[1]);
+                }
                 FoucaultKeeper keeper = Check.loaded("F+90060009000");
                 keeper.set(0, 90 * sign);
                 for (int way : new int[] {0, 1, 15, 16}) {
@@ -236,11 +243,12 @@ public final class TermsEdgeTest {
                 check.due(told + ": the pin at the turn's end", keeper.pin(2, 1), 0);
                 check.due(told + ": the pin a minute behind it", keeper.pin(3, 1), 1);
                 keeper.nudge(-15 * sign);
-                check.due(told + ": the turn again", keeper.swing(1), 0);
-                check.due(told + ": the hits", keeper.about(11), 2);
+                keeper.addPin((10800 + sign * 7) % 10800);
+                check.due(told + ": the turn again, with a new pin", keeper.swing(1), 1);
+                check.due(told + ": the hits", keeper.about(11), 3);
             }
         });
-        all.holds(place, "a pin that stands there (0 behind 10799, either way)", check -> {
+        all.holds(place, "a pin that stands there [at 0 and at 10799]", check -> {
             FoucaultKeeper on = Check.loaded("F+90900009000p000");
             on.nudge(-1);
             check.due("on from 10799 to 0", on.swing(1), 1);
@@ -398,6 +406,12 @@ public final class TermsEdgeTest {
                 check.due(hits + " hits: the oldest", keeper.hit(kept - 1, 0), hits - kept + 1);
                 check.due(hits + " hits: before the oldest", keeper.hit(kept, 0), -9);
             }
+            FoucaultKeeper over = withHits(20);
+            over.swing(20);
+            over.undo();
+            for (int j = 0; j < 20; j++) {
+                check.due("undo of 20 hits more: hit " + j, over.hit(j, 0), 20 - j);
+            }
         });
         all.holds(place, "(also of pins that are removed or stand again)", check -> {
             FoucaultKeeper keeper = withHits(21);
@@ -444,6 +458,13 @@ public final class TermsEdgeTest {
                 check.due("the direction of reading " + i, keeper.reading(i, 1), i);
                 check.due("the height of reading " + i, keeper.reading(i, 2), 9000 - i);
             }
+            keeper.save(0);
+            keeper.undo();
+            keeper.undo();
+            keeper.nudge(600);
+            check.due("another 20th reading", keeper.read(), 19);
+            keeper.restore(0);
+            check.due("the 20th reading again", keeper.reading(19, 1), 19);
         });
         all.holds(place, "is the number of minutes, 0 to 10799, by which one goes on from the direction of i", check -> {
             FoucaultKeeper keeper = new FoucaultKeeper();
@@ -546,7 +567,7 @@ public final class TermsEdgeTest {
         String place = "Exceptions";
         all.holds(place, "If several exceptions apply to a call, the one that its description names first is thrown.",
                 TermsEdgeTest::namedFirst);
-        all.holds(place, "A call that throws an exception changes nothing. (what a full or an empty object refuses)",
+        all.holds(place, "A call that throws an exception changes nothing. [what a full or an empty object refuses]",
                 TermsEdgeTest::fullAndEmpty);
     }
 
@@ -566,15 +587,18 @@ public final class TermsEdgeTest {
             Known.refuses(check, "time" + told, INDEX, k -> k.time(i, j));
             Known.refuses(check, "latitudeFrom" + told, INDEX, k -> k.latitudeFrom(i, j));
         }
-        FoucaultKeeper full = new FoucaultKeeper();
+        FoucaultKeeper text = new FoucaultKeeper();
         for (int i = 0; i < 100; i++) {
-            full.append('F');
+            text.append('F');
         }
+        check.refused(text, "append(-1) to a full text", ARGUMENT, () -> text.append(-1));
+        check.refused(text, "append(256) to a full text", ARGUMENT, () -> text.append(256));
+        FoucaultKeeper pins = new FoucaultKeeper();
         for (int place = 0; place < 40; place++) {
-            full.addPin(place);
+            pins.addPin(place);
         }
-        check.refused(full, "append(256) to a full text", ARGUMENT, () -> full.append(256));
-        check.refused(full, "addPin(10800) of 41", ARGUMENT, () -> full.addPin(10800));
+        check.refused(pins, "addPin(-1) of 41", ARGUMENT, () -> pins.addPin(-1));
+        check.refused(pins, "addPin(10800) of 41", ARGUMENT, () -> pins.addPin(10800));
         FoucaultKeeper fresh = new FoucaultKeeper();
         check.refused(fresh, "restore(2) when nothing is saved", INDEX, () -> fresh.restore(2));
     }

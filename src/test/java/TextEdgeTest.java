@@ -154,7 +154,7 @@ public final class TextEdgeTest {
                 check.due("height " + height, error("F+5024005" + height), NONE);
             }
         });
-        all.holds(place, "(a sign that is no digit, where one is due)", check -> {
+        all.holds(place, "two digits [..] three digits [a sign that is none, where one is due]", check -> {
             String text = PLAIN + "p012";
             for (int at : new int[] {2, 3, 4, 5, 6, 7, 8, 9, 10, 11, 12, 14, 15, 16}) {
                 for (char c : new char[] {'/', ':', ' ', '+', '-', 'p', 0, 255}) {
@@ -206,7 +206,7 @@ public final class TextEdgeTest {
             check.due("another first digit", error(PLAIN + "p012p112"), NONE);
             check.due("nine of ten that begin with 05", error(PLAIN + pins(50, 9) + "p059"), NONE);
         });
-        all.holds(place, "(a place of an earlier pin: told at its second digit when no other is left)", check -> {
+        all.holds(place, "a place of an earlier pin is not allowed, mostly [and when not: at its second digit]", check -> {
             check.due("all ten that begin with 00", error(PLAIN + pins(0, 10) + "p005"), 55);
             check.due("all ten that begin with 17", error(PLAIN + pins(170, 10) + "p170"), 55);
             check.due("all ten that begin with 17, cut off behind it", error(PLAIN + pins(170, 10) + "p17"), 55);
@@ -282,7 +282,7 @@ public final class TextEdgeTest {
                     check.refused(keeper, "no reading", INDEX, () -> keeper.reading(0, 0));
                     check.refused(keeper, "no other pin", INDEX, () -> keeper.pin(1, 0));
                 });
-        all.holds(place, "(the least and the most that a text tells)", check -> {
+        all.holds(place, "as the text tells. [the least and the most]", check -> {
             int[] least = {0, 60, 0, 4000, 0, 0, 0, 0, 0, 0, 0, 0, 0};
             int[] most = {90, 900, 99, 4000, 0, 0, 0, 9999, 0, 20, 20, 0, 0};
             FoucaultKeeper low = Check.loaded("F+00060000000");

@@ -18,7 +18,7 @@ public final class ThereEdgeTest {
 
     private static void about(Sentences all) {
         String place = "Promise 6";
-        all.holds(place, "0 to 4: this setting; 5: the direction; .. 12: of readings", check -> {
+        all.holds(place, "0 to 4: this setting; 5: the direction; [..] 12: of readings", check -> {
             int[] due = {90, 60, 0, 4000, 0, 135, 0, 8891, 9, 3, 1, 2, 2};
             for (int what = 0; what <= 12; what++) {
                 int w = what;
@@ -30,7 +30,7 @@ public final class ThereEdgeTest {
                 Known.refuses(check, "about(" + what + ")", ARGUMENT, k -> k.about(what));
             }
         });
-        all.holds(place, "9: the number of pins; 10: of pins that stand; 11: of hits in the ledger (none, and all that there can be)",
+        all.holds(place, "9: the number of pins; 10: of pins that stand; 11: of hits in the ledger [none, and all that there can be]",
                 check -> {
                     FoucaultKeeper keeper = Check.loaded("F+90060009999");
                     int[] empty = {0, 0, 0, 0};

@@ -46,12 +46,13 @@ public final class ThereTest {
                 check.due("pin(" + k + ", " + what + ")", keeper.pin(k, what), due[k][what]);
             }
         }
-        for (int k : new int[] {-1, 4, 40, Integer.MAX_VALUE, Integer.MIN_VALUE}) {
-            check.refused(keeper, "pin of " + k, IndexOutOfBoundsException.class, () -> keeper.pin(k, 0));
-            check.refused(keeper, "pin of " + k + ", 3", IndexOutOfBoundsException.class, () -> keeper.pin(k, 3));
-        }
         check.refused(keeper, "pin(0, 3)", IllegalArgumentException.class, () -> keeper.pin(0, 3));
         check.refused(keeper, "pin(0, -1)", IllegalArgumentException.class, () -> keeper.pin(0, -1));
+        for (int k : new int[] {-1, 4, 40, Integer.MAX_VALUE, Integer.MIN_VALUE}) {
+            FoucaultKeeper four = Check.loaded("F+90060009000p000p010p179p002");
+            check.refused(four, "pin of " + k, IndexOutOfBoundsException.class, () -> four.pin(k, 0));
+            check.refused(four, "pin of " + k + ", 3", IndexOutOfBoundsException.class, () -> four.pin(k, 3));
+        }
     }
 
     private static void promise8(Check check) {
@@ -109,12 +110,15 @@ public final class ThereTest {
                 check.due("reading(" + i + ", " + what + ")", keeper.reading(i, what), due[i][what]);
             }
         }
-        for (int i : new int[] {-1, 2, 20, Integer.MAX_VALUE, Integer.MIN_VALUE}) {
-            check.refused(keeper, "reading " + i, IndexOutOfBoundsException.class, () -> keeper.reading(i, 0));
-            check.refused(keeper, "reading " + i + ", 3", IndexOutOfBoundsException.class, () -> keeper.reading(i, 3));
-        }
         check.refused(keeper, "reading(0, 3)", IllegalArgumentException.class, () -> keeper.reading(0, 3));
         check.refused(keeper, "reading(0, -1)", IllegalArgumentException.class, () -> keeper.reading(0, -1));
+        for (int i : new int[] {-1, 2, 20, Integer.MAX_VALUE, Integer.MIN_VALUE}) {
+            FoucaultKeeper two = new FoucaultKeeper();
+            two.read();
+            two.read();
+            check.refused(two, "reading " + i, IndexOutOfBoundsException.class, () -> two.reading(i, 0));
+            check.refused(two, "reading " + i + ", 3", IndexOutOfBoundsException.class, () -> two.reading(i, 3));
+        }
     }
 
     private static void promise10(Check check) {
