@@ -30,6 +30,24 @@ public final class TermsEdgeTest {
                 TermsEdgeTest::fiveHundredAndTwelveCalls);
         all.holds("The public face", "`NONE = -9`: There is no such result.",
                 check -> check.due("NONE", FoucaultKeeper.NONE, -9));
+        all.holds("The public face", "these and all following methods up to the save slots change nothing.",
+                TermsEdgeTest::changeNothing);
+    }
+
+    private static void changeNothing(Check check) {
+        Known.answers(check, "move(0, 1)", 60, k -> k.move(0, 1));
+        Known.answers(check, "time(0, 1)", 4, k -> k.time(0, 1));
+        Known.answers(check, "latitudeFrom(0, 1)", 90, k -> k.latitudeFrom(0, 1));
+        // 500 turns from 135 are 7500 minutes on.
+        Known.answers(check, "ahead(500, 0)", 7635, k -> k.ahead(500, 0));
+        Known.answers(check, "fallsAfter(2)", 1, k -> k.fallsAfter(2));
+        Known.answers(check, "lowAfter(0)", FoucaultKeeper.NONE, k -> k.lowAfter(0));
+        Known.answers(check, "pushFor(200)", 0, k -> k.pushFor(200));
+        Known.answers(check, "freeStart(200)", 180, k -> k.freeStart(200));
+        Known.answers(check, "next()", 2, FoucaultKeeper::next);
+        Known.answers(check, "runScript(3, ..)", FoucaultKeeper.NONE, k -> k.runScript(3, 21900_50000_10500L));
+        // Whatever the rounds do, they end at some direction with at most 3 pins fallen.
+        Known.answers(check, "simulate(7, 60)", 1, k -> k.simulate(7, 60) < 40000 ? 1 : 0);
     }
 
     private static void fiveHundredAndTwelveCalls(Check check) {
